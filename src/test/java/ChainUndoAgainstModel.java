@@ -8,7 +8,7 @@ public final class ChainUndoAgainstModel {
     private static final int RUNS = 4000;
     private static final int CALLS = 512;
     private static final int MOST_SHOWN = 20;
-    private static final int[] ODD = {-3, -2, -1, 19, 20, 21, 31, 32, 33, 64, Integer.MIN_VALUE, Integer.MAX_VALUE};
+    private static final int[] ODD = {-3, -2, -1, 4, 5, 19, 20, 21, 31, 32, 33, 64, Integer.MIN_VALUE, Integer.MAX_VALUE};
 
     private static long seed = 1;
     private static int wrong = 0;
